@@ -25,13 +25,16 @@ public final class LoadCycles {
 
     private static final int FLOAT_FRACTION = 23, FLOAT_BIAS = 127;
     private static final int DOUBLE_FRACTION = 52, DOUBLE_BIAS = 1023;
+    /** Enough to bring any share or mean to a double's digits. */
+    private static final int MOST_SHIFTS = 60;
 
     private final House current = new House();
     private final House trial = new House();
     private final Doing currentBest = new Doing();
     private final Doing trialBest = new Doing();
     private final Unmixer unmixer = new Unmixer();
-    private final TextReader reader = new TextReader(trial);
+    private final TextReader reader = new TextReader();
+    private final Guesses guesses = new Guesses();
     private final Sheet[] sheets = new Sheet[SHEETS];
     private final int[] readingAppliances = new int[MOST_READINGS];
     private final int[] readingEnergies = new int[MOST_READINGS];
@@ -67,13 +70,13 @@ public final class LoadCycles {
         if (found != NO_FAULT) {
             return faulted(found);
         }
-        int wrong = reader.readTrial(text, i, n);
+        int wrong = reader.firstFault(text, i, n);
         if (wrong != NONE) {
             return -100 - wrong;
         }
-        current.become(trial);
+        current.become(reader.house);
         readings = 0;
-        bestIsKnown = false;
+        forgetBest();
         return current.appliances;
     }
 
@@ -105,7 +108,7 @@ public final class LoadCycles {
         }
         int was = current.toldLevel(a, k);
         current.setLevel(a, k, v);
-        bestIsKnown = false;
+        forgetBest();
         return was;
     }
 
@@ -132,7 +135,7 @@ public final class LoadCycles {
         }
         System.arraycopy(row.cells, i, current.values, 0, n);
         current.times = n;
-        bestIsKnown = false;
+        forgetBest();
         return n;
     }
 
@@ -149,7 +152,7 @@ public final class LoadCycles {
         }
         int was = current.always;
         current.always = v;
-        bestIsKnown = false;
+        forgetBest();
         return was;
     }
 
@@ -234,10 +237,11 @@ public final class LoadCycles {
         if (!current.hasTime(t)) {
             return UNKNOWN;
         }
+        Doing best = knownBest();
         int due = current.jumpTo(t);
         int count = 0;
         for (int set = 0; set < 1 << current.appliances; set++) {
-            if (powerGain(t, set) == due) {
+            if (powerGain(best, t, set) == due) {
                 count++;
             }
         }
@@ -304,9 +308,7 @@ public final class LoadCycles {
         }
         int set = 0;
         for (int kind = 0; kind < KINDS; kind++) {
-            trial.become(current);
-            trial.kindOf[a] = kind;
-            if (readingsHoldInTrial()) {
+            if (readingsHold(a, kind)) {
                 set |= 1 << kind;
             }
         }
@@ -319,9 +321,7 @@ public final class LoadCycles {
         }
         int set = 0;
         for (int v = 1; v <= HIGHEST_LEVEL; v++) {
-            trial.become(current);
-            trial.setLevel(a, 0, v);
-            if (readingsHoldInTrial()) {
+            if (readingsHold(a, KINDS + v - 1)) {
                 set |= 1 << v;
             }
         }
@@ -500,6 +500,11 @@ public final class LoadCycles {
         return -10 - number;
     }
 
+    private void forgetBest() {
+        bestIsKnown = false;
+        guesses.forget();
+    }
+
     /** BEST is kept until the house or its meter changes, since most calls only ask of it. */
     private Doing knownBest() {
         if (!bestIsKnown) {
@@ -559,8 +564,7 @@ public final class LoadCycles {
     }
 
     /** By how much the powers grow if just the appliances of a set go on by one from the time ahead. */
-    private int powerGain(int t, int set) {
-        Doing best = knownBest();
+    private int powerGain(Doing best, int t, int set) {
         int gain = 0;
         for (int a = 0; a < current.appliances; a++) {
             if ((set >> a & 1) == 1) {
@@ -571,17 +575,31 @@ public final class LoadCycles {
         return gain;
     }
 
-    private boolean readingsHoldInTrial() {
+    /** A guess is a kind, or KINDS and a first level less 1. */
+    private boolean readingsHold(int a, int guess) {
         if (readings == 0) {
             return true;
         }
-        unmixer.unmix(trial, trialBest);
+        if (!guesses.isKnown(a, guess)) {
+            unmixGuess(a, guess);
+            guesses.keep(a, guess, trialBest);
+        }
         for (int r = 0; r < readings; r++) {
-            if (trialBest.energies[readingAppliances[r]] != readingEnergies[r]) {
+            if (guesses.energyOf(a, guess, readingAppliances[r]) != readingEnergies[r]) {
                 return false;
             }
         }
         return true;
+    }
+
+    private void unmixGuess(int a, int guess) {
+        trial.become(current);
+        if (guess < KINDS) {
+            trial.kindOf[a] = guess;
+        } else {
+            trial.setLevel(a, 0, guess - KINDS + 1);
+        }
+        unmixer.unmix(trial, trialBest);
     }
 
     /** The greatest number that divides both; the lower one, if the upper one is 0. */
@@ -606,7 +624,7 @@ public final class LoadCycles {
         long leading = 1L << fraction;
         long scaled = upper;
         int shift = 0;
-        while (shift < DOUBLE_BIAS && scaled / lower < leading) {
+        while (shift < MOST_SHIFTS && scaled / lower < leading) {
             scaled <<= 1;
             shift++;
         }
@@ -720,7 +738,7 @@ public final class LoadCycles {
         }
 
         int powerOf(int a, int k) {
-            int plain = toldLevel(a, k);
+            int plain = told[MOST_LEVELS * a + k];
             switch (kindOf[a]) {
                 case PLAIN:
                     return plain;
@@ -801,19 +819,15 @@ public final class LoadCycles {
         }
     }
 
-    /** Reads a text, code by code, into a house that is only on trial until the text is whole. */
+    /** Reads a text, code by code, into a house of its own: the current one stays until the text is whole. */
     private static final class TextReader {
         private static final int OPENING = 0, FIRST_MARK = 1, KIND = 2, FIRST_LEVEL = 3, MORE = 4;
 
-        private final House house;
+        final House house = new House();
         private int awaits;
 
-        TextReader(House house) {
-            this.house = house;
-        }
-
-        /** The first fault, or NONE. */
-        int readTrial(Sheet text, int i, int n) {
+        /** NONE, if the text is whole. */
+        int firstFault(Sheet text, int i, int n) {
             house.clear();
             awaits = OPENING;
             for (int p = 0; p < n; p++) {
@@ -979,11 +993,10 @@ public final class LoadCycles {
             for (int t = house.times - 1; t >= 0; t--) {
                 int load = house.values[t] - house.always;
                 for (int m = 0; m < mixes; m++) {
-                    int rest = load - powers[m];
-                    int cost = rest < 0 ? CANNOT_BE : rest * COST_OF_REST + ahead[m];
-                    costs[t * MOST_MIXES + m] = cost;
-                    ahead[m] = cost;
+                    int left = load - powers[m];
+                    ahead[m] = left < 0 ? CANNOT_BE : left * COST_OF_REST + ahead[m];
                 }
+                System.arraycopy(ahead, 0, costs, t * MOST_MIXES, mixes);
                 for (int a = 0; a < house.appliances; a++) {
                     letGoOn(a);
                 }
@@ -1025,6 +1038,34 @@ public final class LoadCycles {
                 }
             }
             return next;
+        }
+    }
+
+    /** The energies under each guess, kept since readings come and go while the house stays as it is. */
+    private static final class Guesses {
+        private static final int GUESSES = KINDS + HIGHEST_LEVEL;
+
+        private final boolean[] known = new boolean[MOST_APPLIANCES * GUESSES];
+        private final int[] energies = new int[MOST_APPLIANCES * GUESSES * MOST_APPLIANCES];
+
+        void forget() {
+            for (int g = 0; g < known.length; g++) {
+                known[g] = false;
+            }
+        }
+
+        boolean isKnown(int a, int guess) {
+            return known[a * GUESSES + guess];
+        }
+
+        int energyOf(int a, int guess, int of) {
+            return energies[(a * GUESSES + guess) * MOST_APPLIANCES + of];
+        }
+
+        void keep(int a, int guess, Doing doing) {
+            int place = a * GUESSES + guess;
+            known[place] = true;
+            System.arraycopy(doing.energies, 0, energies, place * MOST_APPLIANCES, MOST_APPLIANCES);
         }
     }
 
