@@ -184,17 +184,7 @@ public final class LoadCycles {
         if (!hasHouse()) {
             return STATE;
         }
-        Doing best = knownBest();
-        switch (what) {
-            case 0:
-                return best.allRests;
-            case 1:
-                return best.changes;
-            case 2:
-                return best.starts;
-            default:
-                return best.allEnergies;
-        }
+        return knownBest().numberOf(what);
     }
 
     public int energy(int a) {
@@ -545,22 +535,12 @@ public final class LoadCycles {
     }
 
     private int answerOfTrialDay(int what) {
-        if (what >= 10 && !trial.hasAppliance(what - 10)) {
-            return NONE;
-        }
         unmixer.unmix(trial, trialBest);
-        switch (what) {
-            case 0:
-                return trialBest.allRests;
-            case 2:
-                return trialBest.changes;
-            case 3:
-                return trialBest.starts;
-            case 4:
-                return trialBest.allEnergies;
-            default:
-                return trial.hasAppliance(what - 10) ? trialBest.energies[what - 10] : NONE;
+        if (what >= 10) {
+            return trial.hasAppliance(what - 10) ? trialBest.energies[what - 10] : NONE;
         }
+        // A day's 1 is its first wrong, so that its other numbers are one further on than those of best().
+        return trialBest.numberOf(what == 0 ? 0 : what - 1);
     }
 
     /** By how much the powers grow if just the appliances of a set go on by one from the time ahead. */
@@ -680,12 +660,6 @@ public final class LoadCycles {
         int appliances;
         int times;
         int always;
-
-        void clear() {
-            appliances = 0;
-            times = 0;
-            always = 0;
-        }
 
         void become(House other) {
             System.arraycopy(other.kindOf, 0, kindOf, 0, MOST_APPLIANCES);
@@ -819,7 +793,7 @@ public final class LoadCycles {
         }
     }
 
-    /** Reads a text, code by code, into a house of its own: the current one stays until the text is whole. */
+    /** Reads a text, code by code, into a house of its own, so that the current one stays until the text is whole. */
     private static final class TextReader {
         private static final int OPENING = 0, FIRST_MARK = 1, KIND = 2, FIRST_LEVEL = 3, MORE = 4;
 
@@ -828,7 +802,8 @@ public final class LoadCycles {
 
         /** NONE, if the text is whole. */
         int firstFault(Sheet text, int i, int n) {
-            house.clear();
+            // Its meter is never filled and its base never set: a house by a text has neither.
+            house.appliances = 0;
             awaits = OPENING;
             for (int p = 0; p < n; p++) {
                 if (!goesOn(text.cells[i + p])) {
@@ -887,10 +862,10 @@ public final class LoadCycles {
     private static final class Doing {
         private final int[] states = new int[MOST_TIMES * MOST_APPLIANCES];
         final int[] energies = new int[MOST_APPLIANCES];
-        int allEnergies;
-        int allRests;
-        int changes;
-        int starts;
+        private int allEnergies;
+        private int allRests;
+        private int changes;
+        private int starts;
 
         int stateOf(int t, int a) {
             return states[t * MOST_APPLIANCES + a];
@@ -898,6 +873,19 @@ public final class LoadCycles {
 
         int stateAhead(int t, int a) {
             return t == 0 ? OFF : stateOf(t - 1, a);
+        }
+
+        int numberOf(int what) {
+            switch (what) {
+                case 0:
+                    return allRests;
+                case 1:
+                    return changes;
+                case 2:
+                    return starts;
+                default:
+                    return allEnergies;
+            }
         }
 
         void begin(House house) {

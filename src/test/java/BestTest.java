@@ -43,6 +43,9 @@ public final class BestTest {
         // On at time 0 explains 2 there, but at its second level (9) it would be too much at time 1.
         LoadCycles x = Check.of("u;P29", 0, 2, 1, 9);
         at(x, "not above the meter", 0, 0, 0, 1);
+        // It can't go through off to its first level within one time.
+        x = Check.of("u;P93", 0, 9, 3, 9, 9, 9);
+        at(x, "one step at a time", 0, 1, 2, 0, 1, 1);
         // More changes, but less rest.
         x = Check.of("u;P5;P4", 0, 5, 4, 5, 4);
         at(x, "less rest", 0, 1, 0, 1, 0);
@@ -58,6 +61,10 @@ public final class BestTest {
         at(x, "fewest changes", 1, 0, 0);
         at(x, "fewest changes", 2, 1, 1);
         check.due("changes", x.best(1), 1);
+        // What must change later counts as well: from 6 to 3 the first one needs one change, the others two.
+        x = Check.of("u;P63;P6;P3", 0, 6, 3);
+        at(x, "later changes", 0, 1, 2);
+        check.due("later changes", x.best(1), 2);
         // Staying at an equal level is no change.
         x = Check.of("u;P55", 0, 5, 5, 5);
         at(x, "stays", 0, 1, 1, 1);
@@ -109,6 +116,15 @@ public final class BestTest {
         check.due("most changes", x.best(1), 80);
         check.due("most starts", x.best(2), 40);
         check.due("most rests", x.best(0), 10 * 63);
+        for (int t = 0; t < 20; t++) {
+            check.due("rest(" + t + ") of four", x.rest(t), t % 2 == 0 ? 63 : 0);
+        }
+        check.due("a smaller house", Check.house(x, "u;P8"), 1);
+        check.due("its meter", Check.meter(x, 9, 3), 2);
+        check.due("rest(0) of a smaller house", x.rest(0), 1);
+        check.due("rest(1) of a smaller house", x.rest(1), 3);
+        check.due("changes of a smaller house", x.best(1), 2);
+        check.due("energies of a smaller house", x.best(3), 8);
     }
 
     private static void refusals() {

@@ -260,6 +260,10 @@ public final class HouseTest {
         check.due("base(6)", x.base(6), -3);
         check.due("many(3) after a refusal", x.many(3), 5);
         check.due("base(5) again", x.base(5), 5);
+        check.due("meter with the least first", Check.meter(x, 5, 7, 8), 3);
+        check.due("base(6), the least first", x.base(6), -3);
+        check.due("meter with the least last", Check.meter(x, 8, 7, 5), 3);
+        check.due("base(6), the least last", x.base(6), -3);
         check.due("base(0)", x.base(0), 5);
         check.due("rest(0) after", x.rest(0), 5);
     }

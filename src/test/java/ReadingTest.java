@@ -148,6 +148,17 @@ public final class ReadingTest {
         LoadCycles some = Check.of("u;P9", 0, 9, 9, 0);
         check.due("some upper", some.odds(0, 0), 2);
         check.due("some lower", some.odds(0, 1), 3);
+        Check.meter(all, 9, 0, 0, 0, 0, 0);
+        check.due("upper of a longer meter", all.odds(0, 0), 1);
+        check.due("lower of a longer meter", all.odds(0, 1), 6);
+        int[] always = new int[20];
+        java.util.Arrays.fill(always, 9);
+        Check.meter(all, always);
+        check.due("upper of twenty times", all.odds(0, 0), 1);
+        always[19] = 0;
+        Check.meter(all, always);
+        check.due("upper of nineteen", all.odds(0, 0), 19);
+        check.due("lower of nineteen", all.odds(0, 1), 20);
         for (int bad : new int[] {-1, 3, MIN, MAX}) {
             check.due("odds(" + bad + ", 0)", x.odds(bad, 0), Long.MIN_VALUE);
         }
