@@ -21,6 +21,7 @@ public final class OracleTest {
 
     public static void main(String[] args) {
         bothOraclesAgree();
+        greatestHouses();
         int runs = args.length > 0 ? Integer.parseInt(args[0]) : 600;
         int wrong = 0;
         for (int run = 0; run < runs && wrong < 40; run++) {
@@ -55,6 +56,48 @@ public final class OracleTest {
             check.due("oracles' way of " + home.key(), all.isBetterThan(ends) || ends.isBetterThan(all) ? 1 : 0, 0);
         }
         check.end();
+    }
+
+    /** Four appliances of three levels each, at twenty times: the most that there can be. */
+    private static void greatestHouses() {
+        Check check = new Check();
+        Random random = new Random(11);
+        for (int round = 0; round < 12; round++) {
+            StringBuilder text = new StringBuilder("u");
+            for (int a = 0; a < 4; a++) {
+                text.append(';').append("PHD".charAt(random.nextInt(3)));
+                for (int k = 0; k < 3; k++) {
+                    text.append((char) ('1' + random.nextInt(9)));
+                }
+            }
+            int[] values = random.ints(20, 0, round % 2 == 0 ? 100 : 40).toArray();
+            compareWhole(check, text.toString(), values);
+        }
+        check.end();
+    }
+
+    private static void compareWhole(Check check, String text, int[] values) {
+        LoadCycles x = Check.of(text, 0, values);
+        Oracle o = new Oracle();
+        o.sheet(0, 2, text.length());
+        o.sheet(1, 2, values.length);
+        for (int i = 0; i < text.length(); i++) {
+            o.put(0, i, text.charAt(i));
+        }
+        for (int t = 0; t < values.length; t++) {
+            o.put(1, t, values[t]);
+        }
+        o.house(0, 2, 0, text.length());
+        o.meter(1, 2, 0, values.length);
+        for (int t = 0; t < values.length; t++) {
+            for (int a = 0; a < 4; a++) {
+                check.due(text + " at(" + t + ", " + a + ")", x.at(t, a), o.at(t, a));
+            }
+            check.due(text + " ways(" + t + ")", x.ways(t), o.ways(t));
+        }
+        for (int what = 0; what < 4; what++) {
+            check.due(text + " best(" + what + ")", x.best(what), o.best(what));
+        }
     }
 
     private void due(String call, long got, long want) {
