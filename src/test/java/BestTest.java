@@ -161,11 +161,11 @@ public final class BestTest {
     }
 
     private static void dayFirstWrong() {
-        LoadCycles x = Check.of("u;P5;H34", 2, 7, 10, 2);
         int[][] wrongs = {{1, 1}, {1, 2}, {1, 5}, {1, 6}, {1, 9}, {1, 11}, {3, 20}, {99, 20}, {1, 30}, {0, 31}, {5, 33}, {5, 49}};
         int[] whats = {0, 2, 3, 4, 10, 13};
         for (int[] act : wrongs) {
             String name = "act " + act[0] + " " + act[1];
+            LoadCycles x = wrongHouse();
             check.due(name, Check.day(x, 1, act), 0);
             check.due(name + " as second", Check.day(x, 1, 5, 0, act[0], act[1]), 1);
             check.due(name + " as second of two", Check.day(x, 1, 5, 0, act[0], act[1], 1, 1), 1);
@@ -174,6 +174,7 @@ public final class BestTest {
                 check.due(name + " as second, " + what, Check.day(x, what, 5, 0, act[0], act[1]), -101);
             }
         }
+        LoadCycles x = wrongHouse();
         int[][] fine = {{1, 0}, {9, 3}, {9, 4}, {2, 20}, {0, 20}, {2, 30}, {99, 32}};
         for (int[] act : fine) {
             check.due("act " + act[0] + " " + act[1], Check.day(x, 1, act), -9);
@@ -193,6 +194,10 @@ public final class BestTest {
         check.due("any base of an empty meter", Check.day(empty, 1, 99, 20), -9);
         check.due("no time of an empty meter", Check.day(empty, 1, 99, 30), 0);
         check.due("an empty meter", Check.day(empty, 0, 99, 20), 0);
+    }
+
+    private static LoadCycles wrongHouse() {
+        return Check.of("u;P5;H34", 2, 7, 10, 2);
     }
 
     private static void dayChangesNothing() {

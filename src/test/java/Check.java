@@ -4,10 +4,14 @@ final class Check {
 
     void due(String call, long got, long want) {
         if (got != want) {
-            wrong++;
-            if (wrong <= 40) {
-                System.out.println(call + " answered " + got + ", due is " + want);
-            }
+            wrong(call + " answered " + got + ", due is " + want);
+        }
+    }
+
+    void wrong(String what) {
+        wrong++;
+        if (wrong <= 40) {
+            System.out.println(what);
         }
     }
 

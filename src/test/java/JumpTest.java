@@ -101,14 +101,12 @@ public final class JumpTest {
         check.due("mean of 0", Check.of("u;P4", 0, 0, 0, 0).mean(), 0);
         check.due("mean of 99", Check.of("u;P4", 0, 99).mean(), Double.doubleToLongBits(99.0));
         for (int n = 1; n <= 20; n++) {
-            LoadCycles x = Check.of("u;P4", 0);
             int[] values = new int[n];
             for (int all = 0; all <= 99 * n; all += all < 120 ? 1 : 7) {
                 for (int t = 0; t < n; t++) {
                     values[t] = Math.max(0, Math.min(99, all - 99 * t));
                 }
-                Check.meter(x, values);
-                check.due("mean " + all + " by " + n, x.mean(), Double.doubleToLongBits((double) all / (double) n));
+                check.due("mean " + all + " by " + n, Check.of("u;P4", 0, values).mean(), Double.doubleToLongBits((double) all / (double) n));
             }
         }
         check.due("empty mean", Check.of("u;P4", 0).mean(), Long.MIN_VALUE);

@@ -102,7 +102,10 @@ public final class OracleTest {
 
     private void due(String call, long got, long want) {
         calls++;
-        check.due("run " + run + ", call " + calls + ": " + call, got, want);
+        // What an object answers to later calls is free.
+        if (calls <= CALLS) {
+            check.due("run " + run + ", call " + calls + ": " + call, got, want);
+        }
     }
 
     private int any(int low, int high) {

@@ -53,8 +53,8 @@ public final class SheetTest {
 
     private static void lanes() {
         int[] told = {0, 1, -1, 127, 128, -128, -129, 255, 256, 32767, 32768, -32768, -32769, 65536, MAX, MIN};
-        LoadCycles x = new LoadCycles();
         for (int v : told) {
+            LoadCycles x = new LoadCycles();
             long[] due = {(byte) v, (short) v, v};
             for (int lane = 0; lane < 3; lane++) {
                 x.sheet(lane, lane, 1);
