@@ -712,7 +712,14 @@ public final class LoadCycles {
         }
 
         int powerOf(int a, int k) {
-            int plain = told[MOST_LEVELS * a + k];
+            return powerIn(a, k + 1);
+        }
+
+        int powerIn(int a, int state) {
+            if (state == OFF) {
+                return 0;
+            }
+            int plain = told[MOST_LEVELS * a + state - 1];
             switch (kindOf[a]) {
                 case PLAIN:
                     return plain;
@@ -721,10 +728,6 @@ public final class LoadCycles {
                 default:
                     return 2 * plain;
             }
-        }
-
-        int powerIn(int a, int state) {
-            return state == OFF ? 0 : powerOf(a, state - 1);
         }
 
         int stateAfter(int a, int state) {

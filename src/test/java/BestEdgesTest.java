@@ -93,6 +93,10 @@ public final class BestEdgesTest {
         at(Check.of("u;P75", 0, 7, 5, 4), "off behind the last level", 0, 1, 2, 0);
         // At the last time it need not go off.
         at(Check.of("u;P75", 0, 7, 5), "at its last level", 0, 1, 2);
+        // From its last level to its first one it takes two times: off is worth a rest of 9, to be at 9 again then.
+        LoadCycles again = Check.of("u;P94", 0, 9, 4, 9, 9, 9);
+        at(again, "through off", 0, 1, 2, 0, 1, 1);
+        best(again, "through off", 9, 4, 2, 31);
     }
 
     /** "REST of a TIME ..; it is never below 0." */
@@ -144,6 +148,10 @@ public final class BestEdgesTest {
         // It is off at the end either way, or stays: staying is no change.
         best(Check.of("u;P5", 0, 5, 5, 5, 5), "it stays", 0, 1, 1, 20);
         best(Check.of("u;P5", 0, 0, 0), "it stays off", 0, 0, 0, 0);
+        // Changes of later times count as much as those of the first one: the first of the three needs but one more.
+        LoadCycles later = Check.of("u;P63;P6;P3", 0, 6, 3);
+        at(later, "fewest of all times", 0, 1, 2);
+        best(later, "fewest of all times", 0, 2, 1, 9);
     }
 
     /** "at the first TIME at which they differ the first APPLIANCE that differs is at the lesser (off, or the LEVEL ..)". */

@@ -2,7 +2,8 @@ import java.util.Random;
 
 /** All promises: long runs of calls by a fixed seed, each answer compared with the oracle's. */
 public final class OracleTest {
-    private static final int[] EDGES = {Integer.MIN_VALUE, Integer.MAX_VALUE, -1, 0, 1, 2, 3, 4, 5, 8, 9, 10, 20, 21, 59, 60, 61, 99, 100};
+    private static final int[] EDGES = {Integer.MIN_VALUE, Integer.MAX_VALUE, -1, 0, 1, 2, 3, 4, 5, 8, 9, 10, 20, 21, 30, 49, 50, 59, 60, 61, 99, 100, 127,
+        128, 255, 256, 2000, 2001};
     private static final int CALLS = 512;
 
     private final Check check = new Check();
