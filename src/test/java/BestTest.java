@@ -65,6 +65,18 @@ public final class BestTest {
         x = Check.of("u;P63;P6;P3", 0, 6, 3);
         at(x, "later changes", 0, 1, 2);
         check.due("later changes", x.best(1), 2);
+        // Two that go on at one time are two changes: not the lesser state of the first one, but one change.
+        x = Check.of("u;P5;P2;P3", 0, 5);
+        at(x, "changes at one time", 0, 1);
+        at(x, "changes at one time", 1, 0);
+        at(x, "changes at one time", 2, 0);
+        check.due("changes at one time", x.best(1), 1);
+        // Going off is a change, too: all off at time 2 would leave as much in all, by seven changes.
+        x = Check.of("u;P4;P21", 0, 3, 5, 2, 6);
+        at(x, "going off", 0, 0, 1, 0, 1);
+        at(x, "going off", 1, 1, 2, 2, 2);
+        check.due("rests", x.best(0), 3);
+        check.due("changes", x.best(1), 5);
         // Staying at an equal level is no change.
         x = Check.of("u;P55", 0, 5, 5, 5);
         at(x, "stays", 0, 1, 1, 1);

@@ -105,7 +105,7 @@ public final class JumpEdgesTest {
         check.due("staying, or both", x.ways(1), 2);
     }
 
-    /** "make POWERS together more (or less) by just the JUMP": by powers, whatever the rest would be. */
+    /** "make POWERS together more (or less) by just the JUMP": by powers; what was left ahead stays left. */
     private static void waysByPowersAlone() {
         LoadCycles x = Check.of("u;P4;P3", 0, 8, 4);
         check.due("rest(0)", x.rest(0), 1);

@@ -17,13 +17,21 @@ final class View {
 
     static List<String> of(Supplier<LoadCycles> maker) {
         View view = new View();
-        List<Consumer<LoadCycles>> looks = List.of(
+        return view.by(maker, List.of(
             view::lookAtHouse, view::lookAtBest, view::lookAtReadings,
-            x -> view.lookAtSheet(x, 0), x -> view.lookAtSheet(x, 1), x -> view.lookAtSheet(x, 2), x -> view.lookAtSheet(x, 3));
+            x -> view.lookAtSheet(x, 0), x -> view.lookAtSheet(x, 1), x -> view.lookAtSheet(x, 2), x -> view.lookAtSheet(x, 3)));
+    }
+
+    static List<String> butForSheets(Supplier<LoadCycles> maker) {
+        View view = new View();
+        return view.by(maker, List.of(view::lookAtHouse, view::lookAtBest, view::lookAtReadings));
+    }
+
+    private List<String> by(Supplier<LoadCycles> maker, List<Consumer<LoadCycles>> looks) {
         for (Consumer<LoadCycles> look : looks) {
             look.accept(maker.get());
         }
-        return view.lines;
+        return lines;
     }
 
     private void add(String call, long answer) {
